@@ -31,7 +31,7 @@ public final class FistTrains {
     public FistTrains() {
         rows = new Rows();
         tape = new Tape();
-        reader = new Reader();
+        reader = new Reader(tape);
         now = new Hall();
         trial = new Hall();
         acts = new Acts();
@@ -124,7 +124,7 @@ public final class FistTrains {
     }
 
     public int hall() {
-        int fault = reader.read(tape, trial);
+        int fault = reader.read(trial);
         tape.length = 0;
         if (fault != 0) {
             latestFault = fault;
@@ -193,7 +193,6 @@ public final class FistTrains {
         return fine(takeHands(row));
     }
 
-    /** How many had another hand than the row gives them. */
     private int takeHands(int row) {
         int others = 0;
         for (int p = 0; p < now.players; p++) {
@@ -402,22 +401,22 @@ public final class FistTrains {
     }
 
     private static boolean areOdds(int a, int b, int c) {
-        return isOdd(a) && isOdd(b) && isOdd(c) && a + b + c == ALL_ODDS;
+        return isShare(a) && isShare(b) && isShare(c) && a + b + c == ALL_ODDS;
     }
 
-    private static boolean isOdd(int odd) {
-        return odd >= 0 && odd <= ALL_ODDS;
+    private static boolean isShare(int share) {
+        return share >= 0 && share <= ALL_ODDS;
     }
 
     private static int winsOf(int hand, int a, int b, int c) {
-        return oddOf(nextOf(nextOf(hand)), a, b, c);
+        return shareOf(nextOf(nextOf(hand)), a, b, c);
     }
 
     private static int lossesOf(int hand, int a, int b, int c) {
-        return oddOf(nextOf(hand), a, b, c);
+        return shareOf(nextOf(hand), a, b, c);
     }
 
-    private static int oddOf(int hand, int a, int b, int c) {
+    private static int shareOf(int hand, int a, int b, int c) {
         return hand == 0 ? a : hand == 1 ? b : c;
     }
 
@@ -633,15 +632,22 @@ public final class FistTrains {
         static final int MOST_FIGURES = 3;
         static final int STANDS_WRONG = 1, NUMBER_WRONG = 2, NO_ROOM = 3;
 
-        Tape text;
+        final Tape text;
         int token;
         int start;
         int past;
         int value;
 
-        /** The fault's number, 0 for none; its token is the one at start. */
-        int read(Tape tape, Hall draft) {
+        Reader(Tape tape) {
             text = tape;
+            token = END;
+            start = 0;
+            past = 0;
+            value = 0;
+        }
+
+        /** The fault's number, 0 for none; its token is the one at start. */
+        int read(Hall draft) {
             past = 0;
             draft.clear();
             step();

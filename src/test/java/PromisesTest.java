@@ -302,6 +302,16 @@ public final class PromisesTest {
         faultDue("player boy 0 \n", 1, 14);
         faultDue("boy 0;", 1, 0);
         faultDue("players boy 0;", 1, 0);
+        faultDue("playerz boy 0;", 1, 0);
+        faultDue("aplayer boy 0;", 1, 0);
+        faultDue("slayer boy 0;", 1, 0);
+        faultDue("playet boy 0;", 1, 0);
+        faultDue("player{boy 0;", 1, 6);
+        faultDue("player`boy 0;", 1, 6);
+        faultDue("player toy 0;", 1, 7);
+        faultDue("player spx 0;", 1, 7);
+        faultDue("player boy 0:;", 1, 12);
+        faultDue("player boy 0/;", 1, 12);
         faultDue("playe boy 0;", 1, 0);
         faultDue("playerboy 0;", 1, 0);
         faultDue("Player boy 0;", 1, 0);

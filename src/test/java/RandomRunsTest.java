@@ -12,7 +12,7 @@ public final class RandomRunsTest {
     private static final int RUNS = 250;
     private static final int CALLS = 512;
 
-    private static final class Fist implements Cloneable {
+    private static final class Fist {
         int sort;
         int hand;
         int leader;
@@ -448,31 +448,34 @@ public final class RandomRunsTest {
             if (!leads(p)) {
                 return STATE;
             }
-            Room best = null;
+            int[] now = room.fists.stream().mapToInt(f -> f.hand).toArray();
+            int[] best = null;
             int fewest = 99;
-            for (int row = 0; row < 6561; row++) {
-                Room then = room.twin();
+            for (int row = 0; row < Math.pow(3, players()); row++) {
+                int[] hands = new int[players()];
                 int others = 0;
                 int rest = row;
                 boolean may = true;
-                for (int q = 7; q >= 0; q--) {
-                    int hand = rest % 3;
+                for (int q = players() - 1; q >= 0; q--) {
+                    hands[q] = rest % 3;
                     rest /= 3;
-                    if (q >= players()) {
-                        may &= hand == 0;
-                    } else {
-                        boolean other = hand != room.fists.get(q).hand;
-                        may &= leads(q) || !other;
-                        others += other ? 1 : 0;
-                        then.fists.get(q).hand = hand;
-                    }
+                    others += hands[q] == now[q] ? 0 : 1;
+                    may &= leads(q) || hands[q] == now[q];
                 }
-                if (may && others < fewest && then.end().leads(p)) {
+                if (may && others < fewest && withAll(hands).end().leads(p)) {
                     fewest = others;
-                    best = then;
+                    best = hands;
                 }
             }
-            return best == null ? NONE : k < 0 ? fewest : best.fists.get(k).hand;
+            return best == null ? NONE : k < 0 ? fewest : best[k];
+        }
+
+        Room withAll(int[] hands) {
+            Room twin = room.twin();
+            for (int q = 0; q < hands.length; q++) {
+                twin.fists.get(q).hand = hands[q];
+            }
+            return twin;
         }
 
         int begun(int p, int told) {
@@ -774,7 +777,9 @@ public final class RandomRunsTest {
         due(x.gain(c, d, e), m.gain(c, d, e), "gain", c, d, e);
         if (lot.nextInt(3) == 0) {
             for (int k = -2; k <= m.players(); k++) {
-                due(x.fewest(a, k), k == -2 || lot.nextInt(4) == 0 ? m.fewest(a, k) : x.fewest(a, k), "fewest", a, k);
+                if (k < 0 || lot.nextInt(4) == 0) {
+                    due(x.fewest(a, k), m.fewest(a, k), "fewest", a, k);
+                }
             }
         }
     }
@@ -825,9 +830,45 @@ public final class RandomRunsTest {
         return right;
     }
 
+    private boolean fewestRun() {
+        fewestInHall();
+        fewestInHall();
+        if (!right) {
+            calls.forEach(System.out::println);
+        }
+        return right;
+    }
+
+    /** Many ties, and trains of unlike lengths: there the way to the fewest hangs on the trains on it. */
+    private void fewestInHall() {
+        int players = 5 + lot.nextInt(4);
+        StringBuilder text = new StringBuilder();
+        for (int p = 0; p < players; p++) {
+            int sort = lot.nextInt(4) == 0 ? 1 + lot.nextInt(5) : 2;
+            text.append("player ").append(SORTS.get(sort)).append(' ').append(lot.nextInt(2)).append(';');
+        }
+        for (char sign : text.toString().toCharArray()) {
+            due(x.feed(sign, 1), m.feed(sign, 1), "feed", (int) sign, 1);
+        }
+        due(x.hall(), m.hall(), "hall");
+        int last = players - 1;
+        for (int bouts = lot.nextInt(players); bouts > 0; bouts--) {
+            int a = last - lot.nextInt(4);
+            int b = lot.nextInt(players);
+            due(x.bout(a, b), m.bout(a, b), "bout", a, b);
+        }
+        for (int p = 0; p < players; p++) {
+            for (int k = -1; k < players; k++) {
+                if (k < 0 || k == p || lot.nextInt(6) == 0) {
+                    due(x.fewest(p, k), m.fewest(p, k), "fewest", p, k);
+                }
+            }
+        }
+    }
+
     public static void main(String[] args) {
         for (int seed = 0; seed < RUNS; seed++) {
-            if (!new RandomRunsTest(seed).run()) {
+            if (!new RandomRunsTest(seed).run() || !new RandomRunsTest(seed).fewestRun()) {
                 System.out.println("run by seed " + seed + " is wrong");
                 System.exit(1);
             }

@@ -115,7 +115,8 @@ abstract class Sentences {
             for (int i = clauses.start(); i < clauses.end(); i++) {
                 any |= quoted[i];
             }
-            due("a test for '" + clauses.group() + "' of " + name, any, true);
+            boolean isHead = clauses.group().startsWith("`");
+            due("a test for '" + clauses.group() + "' of " + name, any || isHead, true);
         }
     }
 

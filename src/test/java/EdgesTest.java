@@ -335,7 +335,9 @@ public final class EdgesTest extends Sentences {
         copyDue(0, 0, 0, 0, 0, 0);
         copyDue(0, 0, 0, 0, 1, PLACE);
         copyDue(40, 40, 39, 39, 1, 1);
+        copyDue(40, 40, 40, 40, 0, 0);
         copyDue(40, 40, 40, 40, 1, PLACE);
+        copyDue(40, 40, 0, 0, 40, 40);
         for (int beyond : new int[] {41, MOST - 1, MOST}) {
             copyDue(40, 40, beyond, 0, 1, PLACE);
             copyDue(40, 40, 0, beyond, 1, PLACE);
@@ -512,25 +514,22 @@ public final class EdgesTest extends Sentences {
     private static void faultLeavesAll() {
         String[] faulty = {"", "player", "player spy 3;", "player spy 1;player spy 1;player", "player boy 1;".repeat(9)};
         for (String text : faulty) {
-            Supplier<FistTrains> emptied = () -> {
-                FistTrains x = busy();
-                x.hall();
-                x.undo();
-                x.restore(0);
-                x.hand(1, 2);
-                x.bout(0, 1);
-                x.round();
-                read(x, "player boy 3;");
-                x.as(0, 5);
-                return x;
-            };
-            FistTrains x = emptied.get();
+            FistTrains x = withEmptyTape();
             due("hall of '" + text + "'", read(x, text) <= FAULTY, true);
-            due("status()", x.status(), 3);
-            FistTrains y = emptied.get();
+            due("status()", x.status(), 2);
+            FistTrains y = withEmptyTape();
             String fault = " fault ";
+            due("what is foretold behind '" + text + "'", foretells(x), foretells(y));
             due("all behind '" + text + "'", allOf(x).replaceAll(fault + "\\d", ""),
                 allOf(y).replaceAll(fault + "\\d", ""));
+            FistTrains none = new FistTrains();
+            read(none, text);
+            due("left(0), no HALL behind '" + text + "'", none.left(0), STATE);
+            due("longest(0, 0), no HALL behind '" + text + "'", none.longest(0, 0), STATE);
+            due("hands(0), no HALL behind '" + text + "'", none.hands(0), STATE);
+            due("image(0), no HALL behind '" + text + "'", none.image(0), STATE);
+            due("round(), no HALL behind '" + text + "'", none.round(), STATE);
+            due("kind(0), no HALL behind '" + text + "'", none.kind(0), BAD);
         }
     }
 
@@ -1172,15 +1171,13 @@ public final class EdgesTest extends Sentences {
     /** For how many rounds a player leads by a hand: it is tried on the object itself, and undone. */
     private static int roundsLed(FistTrains x, int player, int hand) {
         x.hand(player, hand);
-        int acts = 1;
         int led = 0;
-        while (x.count(2) > 1 && x.player(player, 1) == player) {
+        for (int i = 0; i < 3 && x.count(2) > 1 && x.player(player, 1) == player; i++) {
             x.round();
-            acts++;
             led += x.player(player, 1) == player ? 1 : 0;
         }
         boolean isLeft = x.player(player, 1) == player;
-        for (int i = 0; i < acts; i++) {
+        for (int acts = x.count(5); acts > 0; acts--) {
             x.undo();
         }
         return isLeft ? 100 : led;
@@ -1270,31 +1267,57 @@ public final class EdgesTest extends Sentences {
         sentence("STATE: one does not LEAD.", EdgesTest::begunOfNoLeader);
     }
 
-    /** The best way, by trying all rows of hands in their order: how many, then the hands; empty for none. */
-    private static String bestWay(String players, int behind, int into, int player) {
-        int many = players.split(" ").length;
-        String best = "";
-        int fewest = many + 1;
-        for (int row = 0; row < Math.pow(3, many); row++) {
-            FistTrains x = hallOf(players);
-            if (behind >= 0) {
-                x.bout(behind, into);
+    /** Bouts "01 23" are 0 against 1, then 2 against 3. */
+    private static FistTrains behindBouts(String players, String bouts) {
+        FistTrains x = hallOf(players);
+        for (String bout : bouts.isEmpty() ? new String[0] : bouts.split(" ")) {
+            x.bout(bout.charAt(0) - '0', bout.charAt(1) - '0');
+        }
+        return x;
+    }
+
+    /** Who is left by each row of hands, all rows in their order; none, where one who does not lead has another hand. */
+    private static int[] leftByRow(String players, String bouts) {
+        FistTrains told = behindBouts(players, bouts);
+        int many = told.count(1);
+        int[] left = new int[(int) Math.pow(3, many)];
+        FistTrains x = told;
+        for (int row = 0; row < left.length; row++) {
+            if (row % 20 == 0) {
+                x = behindBouts(players, bouts);
             }
-            StringBuilder told = new StringBuilder();
-            int others = 0;
-            int rest = row;
-            int place = (int) Math.pow(3, many - 1);
             boolean mayBe = true;
             for (int p = 0; p < many; p++) {
-                int hand = rest / place;
-                rest %= place;
-                place = Math.max(1, place / 3);
-                boolean isOther = x.hand(p, hand) != hand;
-                others += isOther ? 1 : 0;
-                mayBe &= !isOther || x.player(p, 1) == p;
-                told.append(hand);
+                int hand = handOf(row, p, many);
+                mayBe &= told.player(p, 1) == p || told.player(p, 0) == hand;
+                x.hand(p, hand);
             }
-            if (mayBe && others < fewest && x.left(0) == player) {
+            left[row] = mayBe ? x.left(0) : NONE;
+        }
+        return left;
+    }
+
+    private static int handOf(int row, int player, int many) {
+        int rest = row;
+        for (int p = many - 1; p > player; p--) {
+            rest /= 3;
+        }
+        return rest % 3;
+    }
+
+    /** The best way, by trying all: how many have another hand, then the hands; empty for none. */
+    private static String bestWay(String handsNow, int[] left, int player) {
+        int many = handsNow.length();
+        String best = "";
+        int fewest = many + 1;
+        for (int row = 0; row < left.length; row++) {
+            StringBuilder told = new StringBuilder();
+            int others = 0;
+            for (int p = 0; left[row] == player && p < many; p++) {
+                told.append(handOf(row, p, many));
+                others += told.charAt(p) == handsNow.charAt(p) ? 0 : 1;
+            }
+            if (left[row] == player && others < fewest) {
                 fewest = others;
                 best = told.toString();
             }
@@ -1302,11 +1325,9 @@ public final class EdgesTest extends Sentences {
         return best.isEmpty() ? "" : fewest + best;
     }
 
-    private static void fewestAsTried(String players, int behind, int into) {
-        FistTrains x = hallOf(players);
-        if (behind >= 0) {
-            x.bout(behind, into);
-        }
+    private static void fewestAsTried(String players, String bouts) {
+        FistTrains x = behindBouts(players, bouts);
+        int[] left = leftByRow(players, bouts);
         int many = x.count(1);
         for (int p = 0; p < many; p++) {
             if (x.player(p, 1) == p) {
@@ -1315,7 +1336,8 @@ public final class EdgesTest extends Sentences {
                     int answer = x.fewest(p, k);
                     told.append(answer == NONE ? "" : answer);
                 }
-                due("fewest(" + p + ", ..) of " + players, told.toString(), bestWay(players, behind, into, p));
+                due("fewest(" + p + ", ..) of " + players + " behind bouts " + bouts, told.toString(),
+                    bestWay(hands(x), left, p));
             }
         }
     }
@@ -1332,10 +1354,11 @@ public final class EdgesTest extends Sentences {
     }
 
     private static void handThen() {
-        fewestAsTried("steady1 steady1", -1, -1);
-        fewestAsTried("steady0 teacher0 mirror1", -1, -1);
-        fewestAsTried("steady1 boy1 boy1 steady0", -1, -1);
-        fewestAsTried("boy2 boy0 steady0 steady0 boy2", -1, -1);
+        fewestAsTried("steady1 steady1", "");
+        fewestAsTried("steady0 teacher0 mirror1", "");
+        fewestAsTried("steady1 boy1 boy1 steady0", "");
+        fewestAsTried("boy2 boy0 steady0 steady0 boy2", "");
+        fewestAsTried(EIGHT, "");
         FistTrains x = hallOf("boy0 spy1 steady2 steady1 teacher2 mirror0 mirror1 boy2");
         for (int k = 0; k < 8; k++) {
             due("fewest(1, " + k + "), no other HAND", x.fewest(1, k), x.player(k, 0));
@@ -1350,8 +1373,14 @@ public final class EdgesTest extends Sentences {
         due("fewest(2, 0)", x.fewest(2, 0), 1);
         x.hand(0, 0);
         due("fewest(2, 0)", x.fewest(2, 0), 0);
-        fewestAsTried("steady2 steady0 steady0 boy1", 0, 1);
-        fewestAsTried("boy1 steady1 mirror1 teacher2", 2, 3);
+        fewestAsTried("steady2 steady0 steady0 boy1", "01");
+        fewestAsTried("boy1 steady1 mirror1 teacher2", "23");
+        fewestAsTried("steady1 steady1 steady0", "12");
+        fewestAsTried("steady0 steady0 steady2 steady1 steady1", "23 34");
+        fewestAsTried("steady1 steady0 steady0 steady2 steady1", "03 34");
+        fewestAsTried("teacher0 boy1 spy1 mirror2 boy1 spy1", "53 05");
+        fewestAsTried("steady0 teacher2 boy0 teacher1 steady1 mirror1 mirror2 boy0", "70 75");
+        fewestAsTried("boy1 steady1 boy1 steady1 teacher0 boy0 steady0 mirror0", "01");
     }
 
     private static void fewestOfNone() {

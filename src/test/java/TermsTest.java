@@ -501,6 +501,9 @@ public final class TermsTest extends Sentences {
         faultDue("player boy boy 0;", 1, 11);
         faultDue("player boy 0 0;", 1, 13);
         faultDue("player boy 0 ;;", 1, 14);
+        for (String other : almost("player")) {
+            faultDue(other + " boy 0;", 1, 0);
+        }
     }
 
     private static void sorts() {
@@ -517,6 +520,23 @@ public final class TermsTest extends Sentences {
         }
         faultDue("player player 0;", 1, 7);
         faultDue("player girl 0;", 1, 7);
+        for (int kind = 1; kind <= 5; kind++) {
+            for (String other : almost(SORTS[kind])) {
+                faultDue("player " + other + " 0;", 1, 7);
+            }
+        }
+    }
+
+    /** Words in which one letter is the one ahead of it, or behind it. */
+    private static String[] almost(String word) {
+        String[] words = new String[2 * word.length()];
+        for (int i = 0; i < word.length(); i++) {
+            String ahead = word.substring(0, i);
+            String behind = word.substring(i + 1);
+            words[2 * i] = ahead + (char) (word.charAt(i) - 1) + behind;
+            words[2 * i + 1] = ahead + (char) (word.charAt(i) + 1) + behind;
+        }
+        return words;
     }
 
     private static void handsOfTexts() {
@@ -551,6 +571,14 @@ public final class TermsTest extends Sentences {
         due("left(0)", x.left(0), 0);
         due("hall", read(x, textOf("spy1 spy2 spy0")), 3);
         due("hands", hands(x), "120");
+        String[] halls = {"steady1 steady1 steady0", "boy1", "mirror0 boy0 boy2 steady2"};
+        for (String players : halls) {
+            FistTrains y = hallOf("boy0 boy1 boy2 spy0 spy1 mirror0 mirror1 teacher0");
+            y.round();
+            y.left(0);
+            read(y, textOf(players));
+            due("all that is foretold of " + players, foretells(y), foretells(hallOf(players)));
+        }
     }
 
     private static void noHallAtFirst() {
@@ -578,6 +606,7 @@ public final class TermsTest extends Sentences {
         x.round();
         due("count(3)", x.count(3), 1);
         due("count(4)", x.count(4), 9);
+        x.left(0);
         read(x, TEXT + TEXT);
         due("count(3) of a new HALL", x.count(3), 0);
         due("count(4) of a new HALL", x.count(4), 0);
@@ -1163,9 +1192,10 @@ public final class TermsTest extends Sentences {
         leftDue(hallOf("boy0 boy1 boy2 boy0 boy1 boy2 boy0 spy0"), 7, 3, 3);
         FistTrains x = hallOf("steady0 steady1 boy0 boy0 steady2");
         int who = x.left(0);
-        while (x.count(2) > 1 && x.count(3) < 9) {
+        for (int i = 0; i < 3; i++) {
             x.round();
         }
+        due("count(2) behind the rounds", x.count(2), 1);
         due("who leads behind the rounds", x.player(0, 1), who);
     }
 
@@ -1231,6 +1261,8 @@ public final class TermsTest extends Sentences {
     }
 
     private static void beginToBeLeft() {
+        FistTrains w = hallOf("steady0 steady0 steady1 steady1 spy0 boy0 boy0 boy0");
+        due("begin(0): two rounds by paper, one by stone, none by scissors", w.begin(0), 1);
         FistTrains x = hallOf("steady0 steady2");
         due("begin(1): to be left by paper", x.begin(1), 1);
         FistTrains y = hallOf("steady1 steady0 steady2");

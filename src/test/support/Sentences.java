@@ -195,8 +195,15 @@ abstract class Sentences {
 
     // ---- what an object tells
 
-    /** A hall behind an act of each sort, where 0 and 3 lead; rows of all lanes; one image; a tape, a trace, a fault. */
+    /** What withEmptyTape() gives, and two players on the tape. */
     static FistTrains busy() {
+        FistTrains x = withEmptyTape();
+        feed(x, textOf("spy2 boy1"));
+        return x;
+    }
+
+    /** A hall behind an act of each sort, where 0 and 3 lead; rows of all lanes; one image; a trace, a fault, a finding. */
+    static FistTrains withEmptyTape() {
         FistTrains x = new FistTrains();
         read(x, "player boy 7;");
         read(x, textOf("steady0 boy1 mirror2 spy0 teacher1"));
@@ -209,7 +216,6 @@ abstract class Sentences {
         x.bout(0, 1);
         x.round();
         x.ask(3, 1);
-        feed(x, textOf("spy2 boy1"));
         x.set(0, 5, 1);
         return x;
     }
@@ -261,6 +267,24 @@ abstract class Sentences {
             told.append(x.kind(p));
         }
         return told.append(" fault ").append(x.fault()).append(" trace ").append(trace(x)).append('\n').toString();
+    }
+
+    /** All that is foretold of a hall. */
+    static String foretells(FistTrains x) {
+        StringBuilder told = new StringBuilder("left ").append(x.left(0)).append(' ').append(x.left(1)).append(' ')
+            .append(x.left(2));
+        for (int n = 0; n <= 9; n++) {
+            told.append(" longest ").append(x.longest(n, 0)).append(' ').append(x.longest(n, 1));
+        }
+        int players = x.count(1);
+        for (int p = 0; p < players; p++) {
+            told.append(" of ").append(p).append(' ').append(x.begin(p)).append(' ').append(x.seek(p));
+            for (int q = -1; q < players; q++) {
+                told.append(' ').append(x.fewest(p, q)).append(' ').append(x.begun(p, q)).append(' ')
+                    .append(x.beats(p, q, 0)).append(' ').append(x.beats(p, q, 1));
+            }
+        }
+        return told.toString();
     }
 
     /** A call that is refused, or finds: its answer, and that nothing but status() is other behind it. */

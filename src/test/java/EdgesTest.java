@@ -519,9 +519,11 @@ public final class EdgesTest extends Sentences {
             due("status()", x.status(), 2);
             FistTrains y = withEmptyTape();
             String fault = " fault ";
-            due("what is foretold behind '" + text + "'", foretells(x), foretells(y));
             due("all behind '" + text + "'", allOf(x).replaceAll(fault + "\\d", ""),
                 allOf(y).replaceAll(fault + "\\d", ""));
+            FistTrains z = withEmptyTape();
+            read(z, text);
+            due("what is foretold behind '" + text + "'", foretells(z), foretells(withEmptyTape()));
             FistTrains none = new FistTrains();
             read(none, text);
             due("left(0), no HALL behind '" + text + "'", none.left(0), STATE);
@@ -1177,7 +1179,7 @@ public final class EdgesTest extends Sentences {
             led += x.player(player, 1) == player ? 1 : 0;
         }
         boolean isLeft = x.player(player, 1) == player;
-        for (int acts = x.count(5); acts > 0; acts--) {
+        for (int i = 0; i < 4 && x.count(5) > 0; i++) {
             x.undo();
         }
         return isLeft ? 100 : led;
@@ -1187,9 +1189,9 @@ public final class EdgesTest extends Sentences {
         String[] halls = {EIGHT, "steady0 steady1 steady0 steady2", "boy1 boy1 boy1 boy1 boy1", "spy2 spy1 spy0 mirror0",
             "teacher1 teacher1 mirror1 boy0 steady2 steady2 teacher0", "boy2"};
         for (String players : halls) {
-            FistTrains x = hallOf(players);
-            int many = x.count(1);
+            int many = players.split(" ").length;
             for (int p = 0; p < many; p++) {
+                FistTrains x = hallOf(players);
                 int best = 0;
                 for (int hand = 1; hand < 3; hand++) {
                     best = roundsLed(x, p, hand) > roundsLed(x, p, best) ? hand : best;
@@ -1278,10 +1280,11 @@ public final class EdgesTest extends Sentences {
 
     /** Who is left by each row of hands, all rows in their order; none, where one who does not lead has another hand. */
     private static int[] leftByRow(String players, String bouts) {
-        FistTrains told = behindBouts(players, bouts);
-        int many = told.count(1);
+        FistTrains x = behindBouts(players, bouts);
+        int many = x.count(1);
+        String handsNow = hands(x);
+        String leadersNow = leaders(x);
         int[] left = new int[(int) Math.pow(3, many)];
-        FistTrains x = told;
         for (int row = 0; row < left.length; row++) {
             if (row % 20 == 0) {
                 x = behindBouts(players, bouts);
@@ -1289,7 +1292,7 @@ public final class EdgesTest extends Sentences {
             boolean mayBe = true;
             for (int p = 0; p < many; p++) {
                 int hand = handOf(row, p, many);
-                mayBe &= told.player(p, 1) == p || told.player(p, 0) == hand;
+                mayBe &= leadersNow.charAt(p) == '0' + p || handsNow.charAt(p) == '0' + hand;
                 x.hand(p, hand);
             }
             left[row] = mayBe ? x.left(0) : NONE;

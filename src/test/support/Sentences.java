@@ -232,6 +232,13 @@ abstract class Sentences {
     /** All that can be learnt of an object, but for status(): at first by asking, then by spending what it has. */
     static String allOf(FistTrains x) {
         StringBuilder told = new StringBuilder(seen(x));
+        int players = x.count(1);
+        for (int p = 0; p < players; p++) {
+            for (int kind = 0; kind <= 5; kind++) {
+                told.append(x.as(p, kind)).append(' ');
+            }
+            told.append("asks ").append(x.ask(p, 0)).append(' ').append(x.ask(p, 1)).append('\n');
+        }
         for (int row = 0; row < 8; row++) {
             told.append("row ").append(row).append(": ").append(x.hands(row)).append(' ').append(hands(x)).append('\n');
             if (row == 0) {

@@ -44,7 +44,7 @@ public final class FaceTest extends Sentences {
         due("count(5), call 512", acts.count(5), 24);
         FistTrains halls = new FistTrains();
         for (int call = 1; call <= 511; call += 7) {
-            due("hall, calls " + call + " to " + (call + 6), read(halls, "player boy 0;player spy 1;player mirror 2;"), 3);
+            due("hall, call " + (call + 6), read(halls, "player boy 0;player spy 1;player mirror 2;"), 3);
         }
         due("count(6), call 512", halls.count(6), 0);
         FistTrains asks = hallOf("spy1");

@@ -61,9 +61,7 @@ abstract class Sentences {
             }
         }
         current = DOCUMENT;
-        if (Files.exists(DOC)) {
-            compare(sectionsOf(Files.readString(DOC)), wholeSections);
-        }
+        compare(sectionsOf(Files.readString(DOC)), wholeSections);
         System.out.println(ALL.size() + " sentences, " + (wrong == 0 ? "all as due" : wrong + " answers are wrong"));
         if (wrong > 0) {
             System.exit(1);
@@ -72,13 +70,16 @@ abstract class Sentences {
 
     // ---- the document
 
+    /** The parts of 'Terms' are sections of their own: 'Terms' as it begins, then 'Terms 1' to 'Terms 4'. */
     private static Map<String, String> sectionsOf(String doc) {
         Map<String, String> sections = new LinkedHashMap<>();
         Matcher m = Pattern.compile("(?ms)^## (Promise \\d+|[^\\n:]+)[^\\n]*\\n(.*?)(?=^## |\\z)").matcher(doc);
         while (m.find()) {
-            String body = m.group(2).replaceAll("(?m)^Ahead of the calls.*$", "").replaceAll("(?m)^```\\w*$", "")
-                .replace("========", "");
-            sections.put(m.group(1), plain(body));
+            String body = m.group(2).replaceAll("(?m)^Ahead of the calls.*$", "").replaceAll("(?m)^```\\w*$", "");
+            String[] parts = body.split("========");
+            for (int part = 0; part < parts.length; part++) {
+                sections.put(m.group(1) + (part == 0 ? "" : " " + part), plain(parts[part]));
+            }
         }
         return sections;
     }
@@ -97,15 +98,18 @@ abstract class Sentences {
             String words = plain(each.words);
             int at = text.indexOf(words);
             due("'" + words + "' of " + each.section, at >= 0, true);
-            for (int i = Math.max(at, 0); i < at + words.length(); i++) {
+            for (int i = at; at >= 0 && i < at + words.length(); i++) {
                 quoted.get(each.section)[i] = true;
             }
         }
+        int whole = 0;
         for (Map.Entry<String, String> each : sections.entrySet()) {
             if (wholeSections.matcher(each.getKey()).matches()) {
+                whole++;
                 eachClauseIsQuoted(each.getKey(), each.getValue(), quoted.get(each.getKey()));
             }
         }
+        due("whether the document has " + wholeSections, whole > 0, true);
     }
 
     private static void eachClauseIsQuoted(String name, String text, boolean[] quoted) {
@@ -202,7 +206,7 @@ abstract class Sentences {
         return x;
     }
 
-    /** A hall behind an act of each sort, where 0 and 3 lead; rows of all lanes; one image; a trace, a fault, a finding. */
+    /** A hall behind a hand, a bout, a round: 0 and 3 lead; rows of all lanes, an image, a trace, a fault, PLACE. */
     static FistTrains withEmptyTape() {
         FistTrains x = new FistTrains();
         read(x, "player boy 7;");
@@ -217,6 +221,13 @@ abstract class Sentences {
         x.round();
         x.ask(3, 1);
         x.set(0, 5, 1);
+        return x;
+    }
+
+    /** What busy() gives, a round on: 3 leads alone. */
+    static FistTrains withOneLeader() {
+        FistTrains x = busy();
+        x.round();
         return x;
     }
 
@@ -320,4 +331,6 @@ abstract class Sentences {
     static final int[] NO_PLAYERS = {-1, 5, 7, 8, LEAST, MOST};
     static final int[] NO_ROWS = {-1, 8, 9, LEAST, MOST};
     static final int[] NO_HANDS = {-1, 3, 4, LEAST, MOST};
+    /** What is none, where 0 and 1 are. */
+    static final int[] NO_PAIR_WHATS = {-1, 2, LEAST, MOST};
 }

@@ -5,7 +5,9 @@ import java.lang.reflect.Modifier;
 import java.nio.file.Files;
 import java.nio.file.Path;
 import java.util.ArrayList;
+import java.util.HashMap;
 import java.util.List;
+import java.util.Map;
 import java.util.Set;
 import java.util.TreeSet;
 import java.util.regex.Matcher;
@@ -17,6 +19,13 @@ public final class LanguageTest {
     private static final Path DOC = Path.of("../shared/DOC.md");
     private static final List<String> FORBIDDEN = List.of("throw", "throws", "try", "catch", "synchronized", "assert",
         "import", "package", "null", "this", "super", "hashCode", "toString", "Object", "System.out", "->", "::");
+
+    private static final Set<String> LIBRARY = Set.of("Math.max", "Math.min", "System.arraycopy");
+    /** A method's text goes from its head, four or eight blanks deep, to its closing brace. */
+    private static final Pattern METHOD = Pattern.compile(
+        "(?ms)^( {4}| {8})[^ }\\n][^\\n(]*?(\\w+)\\([^\\n]*\\) \\{$(.*?)^\\1\\}$");
+    private static final Pattern CALL = Pattern.compile("\\b(\\w+)\\(");
+    private static final int MOST_DEEP = 8;
 
     private static int wrong = 0;
 
@@ -32,7 +41,9 @@ public final class LanguageTest {
         membersInside();
         String code = Files.readString(SOURCE).replaceAll("(?s)/\\*.*?\\*/", "").replaceAll("//.*", "");
         words(code);
+        library(code);
         lengths(code);
+        depths(code);
         System.out.println(wrong == 0 ? "the language is kept" : wrong + " rules are broken");
         if (wrong > 0) {
             System.exit(1);
@@ -49,6 +60,7 @@ public final class LanguageTest {
         Set<String> publicNames = new TreeSet<>();
         Set<String> privateNames = new TreeSet<>();
         for (Method method : FistTrains.class.getDeclaredMethods()) {
+            due(method + " has at most 7 parameters", method.getParameterCount() <= 7, true);
             if (Modifier.isPublic(method.getModifiers())) {
                 List<String> types = new ArrayList<>();
                 for (Class<?> type : method.getParameterTypes()) {
@@ -64,6 +76,7 @@ public final class LanguageTest {
         }
         for (Class<?> inside : FistTrains.class.getDeclaredClasses()) {
             for (Method method : inside.getDeclaredMethods()) {
+                due(method + " has at most 7 parameters", method.getParameterCount() <= 7, true);
                 privateNames.add(method.getName());
             }
         }
@@ -93,6 +106,8 @@ public final class LanguageTest {
         due("at most 20 fields", own <= 20, true);
         due("at most 12 classes", FistTrains.class.getDeclaredClasses().length < 12, true);
         for (Class<?> inside : FistTrains.class.getDeclaredClasses()) {
+            long fields = List.of(inside.getDeclaredFields()).stream().filter(f -> !Modifier.isStatic(f.getModifiers())).count();
+            due(inside + " has at most 20 fields", fields <= 20, true);
             due(inside + " is static", Modifier.isStatic(inside.getModifiers()), true);
             due(inside + " is private", Modifier.isPrivate(inside.getModifiers()), true);
         }
@@ -105,14 +120,45 @@ public final class LanguageTest {
         }
     }
 
-    /** A method's text goes from its head, four or eight blanks deep, to its closing brace. */
+    private static void library(String code) {
+        Matcher m = Pattern.compile("\\b(Math|System|Integer|Long|String|Arrays)\\.\\w+").matcher(code);
+        while (m.find()) {
+            due(m.group() + " is looked through", LIBRARY.contains(m.group()), true);
+        }
+        due("signs beyond 127", code.chars().anyMatch(sign -> sign > 127), false);
+    }
+
     private static void lengths(String code) {
-        Matcher m = Pattern.compile("(?ms)^( {4}| {8})[^ }\\n][^\\n]*\\) \\{$.*?^\\1\\}$").matcher(code);
+        Matcher m = METHOD.matcher(code);
         int methods = 0;
         while (m.find()) {
             methods++;
-            due("short: " + m.group().split("\n")[0].trim(), m.group().split("\n").length <= 60, true);
+            due("short: " + m.group(2), m.group().split("\n").length <= 60, true);
         }
         due("methods are found", methods > 100, true);
+    }
+
+    /** Methods of one name are taken as one, so that what is found is never too small. */
+    private static void depths(String code) {
+        Map<String, Set<String>> calls = new HashMap<>();
+        Matcher m = METHOD.matcher(code);
+        while (m.find()) {
+            Set<String> called = calls.computeIfAbsent(m.group(2), name -> new TreeSet<>());
+            CALL.matcher(m.group(3)).results().forEach(call -> called.add(call.group(1)));
+        }
+        for (String name : calls.keySet()) {
+            due(name + " calls at most " + MOST_DEEP + " deep", depth(calls, name, 1) <= MOST_DEEP, true);
+        }
+    }
+
+    /** Beyond the most it goes no deeper: so a method that calls itself is found, too. */
+    private static int depth(Map<String, Set<String>> calls, String name, int level) {
+        int deepest = level;
+        for (String called : calls.get(name)) {
+            if (level <= MOST_DEEP && calls.containsKey(called)) {
+                deepest = Math.max(deepest, depth(calls, called, level + 1));
+            }
+        }
+        return deepest;
     }
 }
